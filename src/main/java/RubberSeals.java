@@ -222,7 +222,6 @@ public final class RubberSeals {
     }
 
     public int weakest() {
-        if (countOfKind(PIECE) == 0) return NONE;
         settleAsIs();
         int least = -1;
         for (int p = 0; p < PLACES; p++) {

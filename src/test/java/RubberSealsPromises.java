@@ -571,6 +571,8 @@ public final class RubberSealsPromises {
         dueFraction(20, "in the second piece", x, x.rest(), 0, 96, 1);
         x.let(0, 120);
         dueFraction(20, "beyond the last", x, x.rest(), 0, 87, 1);
+        x.seal(0, 0, 0, 95, 1);
+        dueFraction(20, "on a PART in PLACE 0", x, x.rest(), 1, 95, 1);
     }
 
     private static void restOfSeveral() {
@@ -666,6 +668,9 @@ public final class RubberSealsPromises {
         dueAsked(23, "cut", x, x.weakest(), 2, 9);
         x.depth(3, 1);
         dueAsked(23, "the last", x, x.weakest(), 3, 7);
+        x.seal(0, 1, 1, 60, 1);
+        dueAsked(23, "PLACE 0", x, x.weakest(), 0, 0);
+        x.take(0);
         x.depth(1, 1);
         x.depth(2, 1);
         x.depth(3, 0);
@@ -731,6 +736,13 @@ public final class RubberSealsPromises {
         x.age(9);
         due(25, "aged away", toldAt(x, 0, 1), 0);
         dueFinding(25, "FREE HEIGHT 0", x, x.through(0), 4);
+        RubberSeals y = with("P1:10G1");
+        y.seal(0, 1, 0, 100, 1);
+        y.let(2, 1);
+        y.let(0, 999);
+        dueFraction(25, "to a height of a tenth", y, y.through(0), 1, 10, 1);
+        y.let(0, 1);
+        dueFraction(25, "squeezed by a tenth", y, y.through(0), 1, 10, 999);
     }
 
     private static void age() {
@@ -771,6 +783,10 @@ public final class RubberSealsPromises {
         due(27, "FREE HEIGHT", toldAt(x, 0, 1), 101);
         due(27, "HEIGHT stays", toldAt(x, 0, 2), 99);
         due(27, "3.03, cut", x.swell(), 3);
+        write(x, 3, "P1:10W9");
+        x.stuff(3, 3);
+        x.seal(0, 1, 3, 111, 1);
+        due(27, "0.999, cut", x.swell(), 0);
         x.seal(0, 1, 1, 400, 1);
         int[] more = {39, 43, 47, 52, 57, 63, 69, 30, 0, 0};
         for (int i = 0; i < more.length; i++) due(27, "800 at most, step " + i, x.swell(), more[i]);
@@ -835,6 +851,9 @@ public final class RubberSealsPromises {
         x.let(0, 40);
         dueAsked(30, "two, one higher by 2", x, x.ends(0, 1, 0), 10, 30);
         dueAsked(30, "ends(1, 0, 0)", x, x.ends(1, 0, 0), 20, 20);
+        x.let(0, 0);
+        dueAsked(30, "no PUSH", x, x.ends(0, 20, 0), 0, 0);
+        x.let(0, 40);
         x.seal(2, 0, 0, 99, 1);
         dueAsked(30, "a PART stays as it is", x, x.ends(0, 1, 0), 0, 20);
         x.take(2);
@@ -1020,7 +1039,7 @@ public final class RubberSealsPromises {
     }
 
     private static void ledByOneAlone() {
-        RubberSeals x = with("P1:10", "P1:10W20", "P1:10C30", "P1:10W10T50");
+        RubberSeals x = with("P1:10", "P1:10W20", "P1:10C30", "P1:10W10T50", "P1:10C21", "P1:10C20");
         x.seal(0, 2, 0, 100, 1);
         x.seal(1, 0, 0, 93, 1);
         x.let(0, 500);
@@ -1051,6 +1070,10 @@ public final class RubberSealsPromises {
         x.let(1, 0);
         x.let(2, 15);
         due(36, "cold at 20, too", x.led(), 4);
+        x.seal(1, 1, 4, 100, 1);
+        due(36, "COLD 21 is cold at 20, too", x.led(), 4);
+        x.seal(1, 1, 5, 100, 1);
+        due(36, "COLD 20 is not cold at 20", x.led(), 6);
         // STRETCHED by 10 of 100 and then AGED from 95 to 91: SET gives back 4, the stretch 5.
         x.seal(0, 2, 3, 100, 1);
         x.seal(1, 0, 0, 87, 1);
@@ -1106,6 +1129,16 @@ public final class RubberSealsPromises {
         dueAsked(37, "both stiff", cold, cold.choose(3, 0, 4), 6, 11);
         layAll(cold, 0, 3, 2, 0, 0, 0, 0);
         dueAsked(37, "both soft are cheaper than one of each", cold, cold.choose(3, 0, 4), 4, 22);
+        RubberSeals mixed = with("P1:10", "P1:20");
+        mixed.seal(0, 1, 0, 100, 1);
+        mixed.seal(1, 1, 0, 100, 1);
+        mixed.depth(1, 1);
+        mixed.let(0, 40);
+        mixed.let(2, 20);
+        layAll(mixed, 0, 1, 5, 0, 0, 0, 0);
+        dueAsked(37, "the stiffer one in the deeper PLACE alone", mixed, mixed.choose(3, 0, 4), 6, 21);
+        mixed.depth(0, 2);
+        dueAsked(37, "the other way round", mixed, mixed.choose(3, 0, 4), 6, 12);
         cold.seal(1, 1, 0, 100, 3);
         cold.let(2, 9);
         layAll(cold, 0, 1, 2, 0, 0, 0, 0);
