@@ -1,9 +1,5 @@
 /** For each promise of the document: ordinary inputs, the edges it names, and wrong inputs. */
-public final class RubberSealsPromises {
-    private static final int BAD = -1, FINDING = -3, STATE = -4, SPENT = -6, NONE = -9;
-    private static final int LOW = Integer.MIN_VALUE, HIGH = Integer.MAX_VALUE;
-    private static int wrong = 0;
-    private static int looked = 0;
+public final class RubberSealsPromises extends Bench {
 
     public static void main(String[] args) {
         newObject();
@@ -53,16 +49,12 @@ public final class RubberSealsPromises {
         findings();
         digest();
         refusedChangesNothing();
-        System.out.println(wrong == 0 ? "all " + looked + " answers are as due" : wrong + " answers are not as due");
-        if (wrong != 0) System.exit(1);
+        end();
     }
 
     private static void due(int promise, String what, long got, long want) {
-        looked++;
-        if (got != want) {
-            wrong++;
-            System.out.println("promise " + promise + ": " + what + " answered " + got + ", due is " + want);
-        }
+        begin("promise " + promise);
+        due(what, got, want);
     }
 
     /** Due is a refusal with this finding. */
@@ -81,42 +73,6 @@ public final class RubberSealsPromises {
         due(promise, what, got, want);
         due(promise, what + ", upper()", x.upper(), up);
         due(promise, what + ", lower()", x.lower(), down);
-    }
-
-    private static void write(RubberSeals x, int t, String items) {
-        x.text(t, items.length());
-        for (int i = 0; i < items.length(); i++) x.put(t, i, items.charAt(i));
-    }
-
-    /** A new object with these stuffs as 0, 1, .. */
-    private static RubberSeals with(String... stuffs) {
-        RubberSeals x = new RubberSeals();
-        for (int s = 0; s < stuffs.length; s++) {
-            write(x, 3, stuffs[s]);
-            if (x.stuff(s, 3) < 1) throw new IllegalStateException(stuffs[s]);
-        }
-        return x;
-    }
-
-    private static void layAll(RubberSeals x, int r, int... values) {
-        x.row(r, values.length);
-        for (int i = 0; i < values.length; i++) x.lay(r, i, values[i]);
-    }
-
-    private static int toldAt(RubberSeals x, int p, int what) {
-        x.told(p, what);
-        return x.asked();
-    }
-
-    private static int layOld(RubberSeals x, int r, int i) {
-        x.lay(r, i, 0);
-        return x.asked();
-    }
-
-    private static long mixed(int... values) {
-        long h = 17;
-        for (int v : values) h = 31 * h + v;
-        return h;
     }
 
     private static void newObject() {

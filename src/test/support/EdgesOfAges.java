@@ -35,6 +35,16 @@ final class EdgesOfAges extends Bench {
         dueFree(x, 100);
     }
 
+    static void promise26_takenOnesDoNotAge() {
+        RubberSeals x = squeezed("P1:10T99");
+        calls(x, "seal 1 1 0 100 1", "take 0", "let 0 0");
+        due(x, "age 9", 0);
+        x.let(0, 100);
+        due(x, "age 9", 1);
+        x.seal(0, 1, 0, 100, 1);
+        dueFree(x, 100, 90);
+    }
+
     static void promise26_aSetOf0() {
         RubberSeals x = squeezed("P1:10");
         due(x, "age 9", 0);
@@ -129,6 +139,12 @@ final class EdgesOfAges extends Bench {
         x.seal(0, 0, 0, 400, 1);
         due(x, "swell", 0);
         dueFree(x, 400);
+    }
+
+    static void promise27_takenOnesDoNotSwell() {
+        RubberSeals x = with("P1:10W99");
+        calls(x, "seal 0 1 0 400 1", "seal 1 1 0 100 1", "take 0");
+        due(x, "swell", 9);
     }
 
     static void promise27_aSwellingOf0() {

@@ -153,6 +153,15 @@ final class EdgesOfChoices extends Bench {
         dueFinding(with("P1:1", "P1:2"), NOTHING, "parting 5", "parting 33", "parting 7", "parting 48", "parting 63");
     }
 
+    /** "NOTHING: one of them is missing": the first of all STUFFS, too. */
+    static void promise34_theFirstStuffIsMissing() {
+        RubberSeals x = new RubberSeals();
+        write(x, 0, "P1:1");
+        calls(x, "stuff 1 0", "stuff 2 0");
+        dueFinding(x, NOTHING, "parting 3", "parting 7");
+        dueAsked(x, "parting 6", 1, 0);
+    }
+
     static void promise34_allSix() {
         RubberSeals x = with("P1:1", "P1:2", "P1:3", "P1:4", "P1:5", "P1:6");
         dueAsked(x, "parting 63", 20, 100);
@@ -463,6 +472,15 @@ final class EdgesOfChoices extends Bench {
         RubberSeals x = with("P1:10", "P1:20");
         layAll(x, 0, 1, 2, 3, 4, 5, 6);
         dueFinding(x, NOTHING, "choose 4 0 9", "choose 32 0 9", "choose 7 0 9", "choose 63 0 1296");
+    }
+
+    /** "NOTHING: one of them": the first of all STUFFS, too. */
+    static void promise37_theFirstStuffIsMissing() {
+        RubberSeals x = new RubberSeals();
+        write(x, 0, "P1:10");
+        calls(x, "stuff 1 0", "row 0 6");
+        dueFinding(x, NOTHING, "choose 1 0 1", "choose 3 0 1");
+        due(x, "choose 2 0 1", 0);
     }
 
     /** "NOTHING: .. the ROW". */

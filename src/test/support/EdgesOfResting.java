@@ -131,6 +131,16 @@ final class EdgesOfResting extends Bench {
         dueFraction(x, "rest", 1, 90, 1);
     }
 
+    static void promise20_aPartInEachPlace() {
+        for (int p = 0; p < 4; p++) {
+            RubberSeals x = with("P1:10");
+            x.seal((p + 1) % 4, 1, 0, 100, 1);
+            x.seal(p, 0, 0, 97, 1);
+            x.let(0, 500);
+            dueFraction(x, "rest", 1, 97, 1);
+        }
+    }
+
     /** "(or there is no RUBBER): on the highest PART". */
     static void promise20_partsAlone() {
         RubberSeals x = new RubberSeals();
@@ -305,6 +315,42 @@ final class EdgesOfResting extends Bench {
         dueFraction(x, "press 0", 0, 9999, 1);
         x.let(0, 9998);
         dueFraction(x, "press 0", 1, 9998, 1);
+    }
+
+    private static final long[] STEEP = {999, 997, 991, 983};
+    private static final long[] WIDE = {20, 19, 17, 13};
+
+    /** Four of the greatest height and area in the cold, of widths that share no divisor. */
+    private static RubberSeals great() {
+        RubberSeals x = new RubberSeals();
+        for (int p = 0; p < 4; p++) {
+            write(x, 0, "P" + WIDE[p] + ":" + STEEP[p] + "C99W99G99");
+            x.stuff(p, 0);
+            x.seal(p, 4, p, 400, 9);
+        }
+        for (int i = 0; i < 9; i++) x.swell();
+        calls(x, "let 0 99999", "let 2 9999");
+        return x;
+    }
+
+    /** The parts of a step: all together push 27 of these, by the product of the widths, a step. */
+    private static long greatSum() {
+        long sum = 0;
+        for (int p = 0; p < 4; p++) sum += STEEP[p] * (20 * 19 * 17 * 13 / WIDE[p]);
+        return sum;
+    }
+
+    static void promise20_theGreatestOfAll() {
+        RubberSeals x = great();
+        dueFree(x, 800, 800, 800, 800);
+        long down = 27 * greatSum();
+        dueRatio(x, "rest", 0, 800 * down - 99999L * 83980, down);
+    }
+
+    static void promise21_theGreatestOfAll() {
+        RubberSeals x = great();
+        long down = 27 * greatSum();
+        for (int p = 0; p < 4; p++) dueRatio(x, "press " + p, 1, 3 * STEEP[p] * (83980 / WIDE[p]) * 99999L, down);
     }
 
     static void promise21_pressChangesNothing() {

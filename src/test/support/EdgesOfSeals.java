@@ -132,6 +132,20 @@ final class EdgesOfSeals extends Bench {
         dueState(x, "rest");
     }
 
+    /** What was taken is asked nothing more, and counts nowhere. */
+    static void promise14_whatIsTakenIsNotThere() {
+        RubberSeals x = with("P1:10T99W99G9");
+        calls(x, "seal 1 3 0 100 1", "seal 2 0 0 90 1", "take 1", "let 0 99999", "let 2 9999", "let 3 99");
+        dueFinding(x, NOTHING, "stretch 1 0", "told 1 0", "mark 1 1", "press 1", "through 1", "renew 1", "blown 1", "ends 1 0 0", "follows 1 1 1");
+        due(x, "opens", 0);
+        due(x, "leak", 0);
+        due(x, "age 9", 0);
+        due(x, "swell", 0);
+        due(x, "sure 20 999", 2);
+        dueState(x, "led");
+        dueNone(x, "weakest");
+    }
+
     // ---- promise 15: depth
 
     /** "DEPTH (0 .. 200; 0 at first)". */
